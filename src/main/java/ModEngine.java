@@ -228,7 +228,7 @@ public final class ModEngine {
             long f = factor & LIMB_MASK;
             long carry = 0;
             for (int i = 0; i < k; i++) {
-                // At most 2^64 - 1 in all, so nothing is lost as long as the shift takes no sign along.
+                // At most 2^64 - 1 in all, so nothing is lost if the shift takes no sign along.
                 carry += f * (other[i] & LIMB_MASK) + (row[i] & LIMB_MASK);
                 row[i] = (int) carry;
                 carry >>>= LIMB_BITS;
@@ -258,16 +258,16 @@ public final class ModEngine {
 
     /**
      * The numbers modulo an odd one. R is 2 to 32 k; a number x stands in Montgomery's form as x R, which
-     * montgomery() keeps. The work rows are made once, so that no call makes any. The row into may be one of those
-     * that are read, but for raise().
+     * montgomery() keeps; unit is 1 in that form. The work rows are made once, so that no call makes any. The row
+     * into may be one of those that are read, but for raise().
      */
     private static final class Ring {
         final int[] modulus;
         private final int k;
         private final int bits;
         private final int[] one;
-        private final int[] rOnce;
-        private final int[] rTwice;
+        private final int[] unit;
+        private final int[] rSquared;
         private final int[] running;
         private final int[] left;
         private final int[] right;
@@ -281,8 +281,8 @@ public final class ModEngine {
             modulus = new int[limbs];
             one = new int[limbs];
             one[0] = 1;
-            rOnce = new int[limbs];
-            rTwice = new int[limbs];
+            unit = new int[limbs];
+            rSquared = new int[limbs];
             running = new int[limbs];
             left = new int[limbs];
             right = new int[limbs];
@@ -298,14 +298,14 @@ public final class ModEngine {
         /** Works out what montgomery() and its users need of a fit modulus. */
         void prepare() {
             minusInverse = -inverseOfLimb(modulus[0]);
-            Limbs.copy(rOnce, one, k);
-            doubleOften(rOnce);
-            Limbs.copy(rTwice, rOnce, k);
-            doubleOften(rTwice);
+            Limbs.copy(unit, one, k);
+            doubleOften(unit);
+            Limbs.copy(rSquared, unit, k);
+            doubleOften(rSquared);
         }
 
         void residue(int[] into, int[] a) {
-            montgomery(into, a, rTwice);
+            montgomery(into, a, rSquared);
             montgomery(into, into, one);
         }
 
@@ -322,7 +322,7 @@ public final class ModEngine {
         }
 
         void product(int[] into, int[] a, int[] b) {
-            montgomery(left, a, rTwice);
+            montgomery(left, a, rSquared);
             montgomery(into, left, b);
         }
 
@@ -332,7 +332,7 @@ public final class ModEngine {
         }
 
         void power(int[] into, int[] a, int[] exponent) {
-            montgomery(left, a, rTwice);
+            montgomery(left, a, rSquared);
             raise(right, left, exponent, 0);
             montgomery(into, right, one);
         }
@@ -360,15 +360,15 @@ public final class ModEngine {
          * modulus's own from bit s up.
          */
         boolean isProvedCompositeBy(int[] a) {
-            montgomery(left, a, rTwice);
+            montgomery(left, a, rSquared);
             if (Limbs.isSmall(left, 0, k)) {
                 return false;
             }
             int s = twosInModulusLessOne();
             int[] minusOne = leftShare;
-            subtractBelow(minusOne, modulus, rOnce);
+            subtractBelow(minusOne, modulus, unit);
             raise(right, left, modulus, s);
-            if (Limbs.order(right, rOnce, k) == 0) {
+            if (Limbs.order(right, unit, k) == 0) {
                 return false;
             }
             for (int squares = 0; squares < s; squares++) {
@@ -401,7 +401,7 @@ public final class ModEngine {
          * form, and into is a row of its own.
          */
         private void raise(int[] into, int[] base, int[] exponent, int lowest) {
-            Limbs.copy(into, rOnce, k);
+            Limbs.copy(into, unit, k);
             for (int bit = Limbs.highestBit(exponent, k); bit >= lowest; bit--) {
                 montgomery(into, into, into);
                 if (Limbs.isBitSet(exponent, bit)) {

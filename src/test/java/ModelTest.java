@@ -53,8 +53,8 @@ public final class ModelTest {
         calls++;
         if (got != want) {
             wrong++;
-            System.out.println("run " + run + " call " + calls + " (k " + k + ", n " + n + ", modulus " + modulus.toString(16)
-                + "): " + what + " answered " + got + ", due is " + want);
+            System.out.println("run " + run + " call " + calls + " (k " + k + ", n " + n + ", modulus "
+                + modulus.toString(16) + "): " + what + " answered " + got + ", due is " + want);
         }
     }
 
@@ -186,7 +186,8 @@ public final class ModelTest {
         } else if (kind == 6) {
             otherCall(a);
         } else if (kind == 7) {
-            due("compare(" + a + ", " + b + ")", engine.compare(a, b), has(a) && has(b) ? held[a].compareTo(held[b]) : 2);
+            int want = has(a) && has(b) ? held[a].compareTo(held[b]) : 2;
+            due("compare(" + a + ", " + b + ")", engine.compare(a, b), want);
         } else if (kind < 10) {
             reduceCall(a);
         } else if (kind < 13) {

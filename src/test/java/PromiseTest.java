@@ -23,10 +23,12 @@ public final class PromiseTest {
         subModSubtracts();
         mulModMultiplies();
         montModDividesByR();
+        smallModuliTakeWideOperands();
         powModRaises();
         invModInverts();
         invModTellsThatThereIsNone();
         witnessFollowsMillersRule();
+        witnessWithTheMostSquares();
         witnessOfZeroAndOfUnreduced();
         compareOrdersWithoutASign();
         operandsMayBeOneRegister();
@@ -256,6 +258,11 @@ public final class PromiseTest {
                 checkReduce(k, m, twoTo(32 * k - 1));
             }
         }
+        ModEngine x = readyEngine(2, num(10007), num(20000), num(30000), num(40000));
+        due("reduce", x.reduce(1), true);
+        due("register 0 after reduce(1)", get(x, 2, 0), num(20000));
+        due("register 1 after reduce(1)", get(x, 2, 1), num(30000 % 10007));
+        due("register 2 after reduce(1)", get(x, 2, 2), num(40000));
     }
 
     private static void checkUntouched(String what, ModEngine x) {
@@ -309,7 +316,8 @@ public final class PromiseTest {
     private static final BigInteger M128 = hex("fedcba9876543210fedcba9876543211");
     private static final BigInteger[] VALUES = {
         BigInteger.ZERO, BigInteger.ONE, num(2), M128.subtract(BigInteger.ONE), M128, M128.add(BigInteger.ONE),
-        hex("ffffffffffffffffffffffffffffffff"), hex("ffffffff00000000ffffffff00000000"), hex("123456789abcdef0f0e1d2c3b4a59687"),
+        hex("ffffffffffffffffffffffffffffffff"), hex("ffffffff00000000ffffffff00000000"),
+        hex("123456789abcdef0f0e1d2c3b4a59687"),
     };
 
     private static void addModAdds() {
@@ -359,6 +367,28 @@ public final class PromiseTest {
                     due("a after montMod", get(x, k, 1), a);
                     due("b after montMod", get(x, k, 2), b);
                 }
+            }
+        }
+    }
+
+    /** Operands far above a small modulus, so that Montgomery's rule is used beyond its usual bounds. */
+    private static void smallModuliTakeWideOperands() {
+        BigInteger most = twoTo(96).subtract(BigInteger.ONE);
+        for (int m = 3; m < 60; m += 2) {
+            BigInteger modulus = num(m);
+            BigInteger byR = twoTo(96).modInverse(modulus);
+            for (BigInteger b : new BigInteger[] {most, most.subtract(BigInteger.ONE), twoTo(95), num(m), num(m + 1)}) {
+                ModEngine x = readyEngine(3, modulus, most, b);
+                x.addMod(2, 0, 1);
+                due("sum modulo " + m, get(x, 3, 2), most.add(b).mod(modulus));
+                x.subMod(2, 0, 1);
+                due("difference modulo " + m, get(x, 3, 2), most.subtract(b).mod(modulus));
+                x.mulMod(2, 0, 1);
+                due("product modulo " + m, get(x, 3, 2), most.multiply(b).mod(modulus));
+                x.montMod(2, 0, 1);
+                due("product by R modulo " + m, get(x, 3, 2), most.multiply(b).multiply(byR).mod(modulus));
+                x.powMod(2, 0, 1);
+                due("power modulo " + m, get(x, 3, 2), most.modPow(b, modulus));
             }
         }
     }
@@ -459,6 +489,23 @@ public final class PromiseTest {
         }
     }
 
+    /** The modulus less 1 is the greatest power of two that k limbs hold: s is at its highest, and t is 1. */
+    private static void witnessWithTheMostSquares() {
+        for (int k = 1; k <= 8; k++) {
+            BigInteger m = twoTo(32 * k - 1).add(BigInteger.ONE);
+            // 3 divides m: a square root of 1 that is 1 modulo the power of 3 in m and -1 modulo the rest.
+            BigInteger threes = m.gcd(num(3).pow(99));
+            BigInteger rest = m.divide(threes);
+            BigInteger root = rest.multiply(rest.modInverse(threes)).multiply(num(2)).subtract(BigInteger.ONE).mod(m);
+            due("root of 1", root.multiply(root).mod(m), BigInteger.ONE);
+            ModEngine x = readyEngine(k, m, root, num(2), num(3), m.subtract(BigInteger.ONE));
+            due("witness of a root of 1", x.witness(0), 1);
+            due("witness of 2", x.witness(1), millersRule(num(2), m));
+            due("witness of 3", x.witness(2), 1);
+            due("witness of m - 1", x.witness(3), 0);
+        }
+    }
+
     private static void witnessOfZeroAndOfUnreduced() {
         ModEngine x = readyEngine(1, num(15), num(0), num(15), num(30), num(16), num(17), num(29));
         due("witness of 0", x.witness(0), 0);
@@ -500,7 +547,8 @@ public final class PromiseTest {
             BigInteger p = held[at[1]];
             BigInteger q = held[at[2]];
             BigInteger[] want = {
-                p.add(q), p.subtract(q), p.multiply(q), p.multiply(q).multiply(twoTo(128).modInverse(M128)), p.modPow(q, M128),
+                p.add(q), p.subtract(q), p.multiply(q),
+                p.multiply(q).multiply(twoTo(128).modInverse(M128)), p.modPow(q, M128),
             };
             for (int op = 0; op < want.length; op++) {
                 ModEngine x = readyEngine(4, M128, a, b);
